@@ -258,6 +258,12 @@ public final class PromisesTest {
         due("possible() with 2 - 3 back", x.possible(), 0);
         x.force(2, MddBranchBound.OUT);
         due("possible() with 2 out", x.possible(), 1);
+        for (int v = 0; v < 3; v++) {
+            MddBranchBound ends = path();
+            ends.force(v, MddBranchBound.IN);
+            ends.force(v + 1, MddBranchBound.IN);
+            due("possible() with the ends of " + v + " - " + (v + 1) + " in", ends.possible(), 0);
+        }
         MddBranchBound out = path();
         for (int v = 0; v < 4; v++) {
             out.force(v, MddBranchBound.OUT);
