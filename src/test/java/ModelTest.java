@@ -1,8 +1,12 @@
 import java.util.ArrayList;
 import java.util.List;
 import java.util.TreeSet;
+import java.util.stream.IntStream;
 
-/** Long mixed runs of calls, compared with a slow model that is written straight from the document. */
+/**
+ * Long mixed runs of calls, every graph and forcing of few vertices, and every chain, compared with a slow model that
+ * is written straight from the document.
+ */
 public final class ModelTest {
     private static final int RUNS = 300;
     private static final int CALLS = 70;
@@ -23,6 +27,17 @@ public final class ModelTest {
     public static void main(String[] args) {
         for (int run = 0; run < RUNS && wrong < 20; run++) {
             mixedRun(run);
+        }
+        everyState(2, IntStream.rangeClosed(0, 30).toArray());
+        everyState(3, new int[] {0, 1, 2, 30});
+        everyState(4, new int[] {1, 2});
+        for (int n = 2; n <= 12; n++) {
+            everyChain(n, 0);
+        }
+        for (int n = 2; n <= 4; n++) {
+            for (int graph = 1; graph < 1 << n * (n - 1) / 2; graph++) {
+                everyChain(n, graph);
+            }
         }
         System.out.println(wrong == 0 ? "all answers are as due" : wrong + " answers are not as due");
         if (wrong != 0) {
@@ -82,22 +97,109 @@ public final class ModelTest {
         int before = wrong;
         model.listSets();
         for (int turn = 0; turn < 2; turn++) {
-            due(past, "vertices()", x.vertices(), model.n);
-            due(past, "possible()", x.possible(), model.allowed.isEmpty() ? 0 : 1);
-            due(past, "best()", x.best(), model.best(model.allowed));
-            due(past, "bestSet()", x.bestSet(), model.bestSet(model.allowed));
-            due(past, "allowedSets()", x.allowedSets(), model.allowed.size());
-            due(past, "bestSets()", x.bestSets(), model.bestSets());
-            due(past, "alpha()", x.alpha(), model.alpha());
-            due(past, "leastCover()", x.leastCover(), model.leastCover());
-            int bound = between(-1, 40);
-            due(past, "atLeast(" + bound + ")", x.atLeast(bound), model.atLeast(bound));
-            int v = between(-1, model.n);
-            due(past, "neighbours(" + v + ")", x.neighbours(v), model.neighbours(v));
-            due(past, "bestWith(" + v + ")", x.bestWith(v), model.bestHaving(v, true));
-            due(past, "bestWithout(" + v + ")", x.bestWithout(v), model.bestHaving(v, false));
+            askOfAll(x, model, past);
+            askOfBound(x, model, past, between(-1, 40));
+            askOfVertex(x, model, past, between(-1, model.n));
         }
         return wrong == before;
+    }
+
+    private static void askOfAll(MddBranchBound x, Model model, StringBuilder past) {
+        due(past, "vertices()", x.vertices(), model.n);
+        due(past, "possible()", x.possible(), model.allowed.isEmpty() ? 0 : 1);
+        due(past, "best()", x.best(), model.best(model.allowed));
+        due(past, "bestSet()", x.bestSet(), model.bestSet(model.allowed));
+        due(past, "allowedSets()", x.allowedSets(), model.allowed.size());
+        due(past, "bestSets()", x.bestSets(), model.bestSets());
+        due(past, "alpha()", x.alpha(), model.alpha());
+        due(past, "leastCover()", x.leastCover(), model.leastCover());
+    }
+
+    private static void askOfBound(MddBranchBound x, Model model, StringBuilder past, int bound) {
+        due(past, "atLeast(" + bound + ")", x.atLeast(bound), model.atLeast(bound));
+    }
+
+    private static void askOfVertex(MddBranchBound x, Model model, StringBuilder past, int v) {
+        due(past, "neighbours(" + v + ")", x.neighbours(v), model.neighbours(v));
+        due(past, "bestWith(" + v + ")", x.bestWith(v), model.bestHaving(v, true));
+        due(past, "bestWithout(" + v + ")", x.bestWithout(v), model.bestHaving(v, false));
+    }
+
+    private static int power(int base, int times) {
+        int product = 1;
+        for (int i = 0; i < times; i++) {
+            product *= base;
+        }
+        return product;
+    }
+
+    /** Every graph on n vertices, with every forcing of them and every choice among the weights. */
+    private static void everyState(int n, int[] weights) {
+        for (int graph = 0; graph < 1 << n * (n - 1) / 2; graph++) {
+            for (int forcing = 0; forcing < power(3, n); forcing++) {
+                for (int weighing = 0; weighing < power(weights.length, n) && wrong < 20; weighing++) {
+                    oneState(n, graph, forcing, weighing, weights);
+                }
+            }
+        }
+    }
+
+    private static void oneState(int n, int graph, int forcing, int weighing, int[] weights) {
+        MddBranchBound x = new MddBranchBound(n, 1);
+        Model model = new Model(n);
+        StringBuilder past = new StringBuilder("new (" + n + ", 1)");
+        joinAll(x, model, past, graph);
+        int most = 0;
+        for (int v = 0; v < n; v++) {
+            int how = forcing / power(3, v) % 3;
+            int weight = weights[weighing / power(weights.length, v) % weights.length];
+            due(past, "force(" + v + ", " + how + ")", x.force(v, how), model.force(v, how));
+            due(past, "weigh(" + v + ", " + weight + ")", x.weigh(v, weight), model.weigh(v, weight));
+            most += weight;
+        }
+        model.listSets();
+        askOfAll(x, model, past);
+        for (int bound = -1; bound <= most + 1; bound++) {
+            askOfBound(x, model, past, bound);
+        }
+        for (int v = -1; v <= n; v++) {
+            askOfVertex(x, model, past, v);
+        }
+    }
+
+    /** The bits of graph tell, pair by pair, which edges there are. */
+    private static void joinAll(MddBranchBound x, Model model, StringBuilder past, int graph) {
+        int pair = 0;
+        for (int u = 0; u < model.n; u++) {
+            for (int v = 0; v < u; v++) {
+                int flag = graph >> pair & 1;
+                due(past, "edge(" + u + ", " + v + ", " + flag + ")", x.edge(u, v, flag), model.edge(u, v, flag));
+                pair++;
+            }
+        }
+    }
+
+    /** Every chain that is not refused, each on an object of its own. */
+    private static void everyChain(int n, int graph) {
+        for (int v = 0; v < n; v++) {
+            for (int step = 1; step <= 11; step++) {
+                for (int count = 1; count <= 12 && wrong < 20; count++) {
+                    oneChain(n, graph, v, step, count);
+                }
+            }
+        }
+    }
+
+    private static void oneChain(int n, int graph, int v, int step, int count) {
+        MddBranchBound x = new MddBranchBound(n, 1);
+        Model model = new Model(n);
+        StringBuilder past = new StringBuilder("new (" + n + ", 1)");
+        joinAll(x, model, past, graph);
+        due(past, "chain(" + v + ", " + step + ", " + count + ")", x.chain(v, step, count),
+                model.chain(v, step, count));
+        for (int u = 0; u < n; u++) {
+            due(past, "neighbours(" + u + ")", x.neighbours(u), model.neighbours(u));
+        }
     }
 
     private static void due(StringBuilder past, String call, int got, int want) {
@@ -126,6 +228,10 @@ public final class ModelTest {
             for (int v = 0; v < n; v++) {
                 weights[v] = 1;
             }
+        }
+
+        /** Left until sets are asked for, since no object of everyChain asks. */
+        void listEvery() {
             every.add(new TreeSet<>());
             for (int v = 0; v < n; v++) {
                 List<TreeSet<Integer>> with = new ArrayList<>();
@@ -207,6 +313,9 @@ public final class ModelTest {
         }
 
         void listSets() {
+            if (every.isEmpty()) {
+                listEvery();
+            }
             independent.clear();
             allowed.clear();
             for (TreeSet<Integer> set : every) {
